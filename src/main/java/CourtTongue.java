@@ -754,11 +754,12 @@ public final class CourtTongue {
         }
 
         boolean isLevel(int fact) {
-            return cell(fact, 2) == 1;
+            return at(cells, fact * CELLS + 2) == 1;
         }
 
         boolean isOf(int fact, int season) {
-            return cell(fact, 3) == NONE || cell(fact, 3) == season;
+            int told = at(cells, fact * CELLS + 3);
+            return told == NONE || told == season;
         }
 
         int countLiving() {
@@ -1324,7 +1325,9 @@ public final class CourtTongue {
     private static final class Climb {
         // Every way in which five can stand, in four seasons.
         private static final int MOST_STATES = 480;
+        // A state is three bits for the place of each person, and the season above them.
         private static final int SEASON_SHIFT = 3 * MOST_PEOPLE;
+        private static final int ALL_PLACES = (1 << SEASON_SHIFT) - 1;
 
         private final int[] below = new int[SEASONS * ROOM];
         private final int[] states = new int[MOST_STATES];
@@ -1356,7 +1359,7 @@ public final class CourtTongue {
                 met[i] = false;
             }
             add(firstState(season), NONE, NONE);
-            for (int head = 0; head < MOST_STATES && head < size && goal == NONE; head++) {
+            for (int head = 0; head < size && head < MOST_STATES && goal == NONE; head++) {
                 if (isAbove(at(states, head), clerk, past)) {
                     goal = head;
                 } else {
@@ -1419,9 +1422,10 @@ public final class CourtTongue {
 
         private int changed(int state, int hearer) {
             int turned = placeOf(state, clerk) ^ placeOf(state, hearer);
-            int places = state & (1 << SEASON_SHIFT) - 1;
+            int both = turned << 3 * clerk | turned << 3 * hearer;
+            int places = (state & ALL_PLACES) ^ both;
             int season = (seasonOf(state) + 1) % SEASONS;
-            return places ^ turned << 3 * clerk ^ turned << 3 * hearer | season << SEASON_SHIFT;
+            return places | season << SEASON_SHIFT;
         }
 
         private boolean isAbove(int state, int one, int other) {
@@ -1553,13 +1557,13 @@ public final class CourtTongue {
                     told = readFact(1);
                     break;
                 case PART:
-                    told = readPart();
+                    told = readPartName() && readFormula(draft.parts - 1);
                     break;
                 case SEASON:
                     told = readSeason();
                     break;
                 case RISE:
-                    told = readRise();
+                    told = readRiseWord() && readFormula(Formulas.RISE_FORMULA);
                     break;
                 default:
                     fail(TOO_STRANGE);
@@ -1583,10 +1587,13 @@ public final class CourtTongue {
                 return fail(TOO_MUCH);
             }
             next();
-            int letters = value;
-            if (!isName() || draft.personNamed(letters) != NONE) {
-                return fail(isName() ? TOLD_ALREADY : TOO_STRANGE);
+            if (!isName()) {
+                return fail(TOO_STRANGE);
             }
+            if (draft.personNamed(value) != NONE) {
+                return fail(TOLD_ALREADY);
+            }
+            int letters = value;
             next();
             int age = readNumber(MOST_AGE);
             if (age == NONE) {
@@ -1630,20 +1637,19 @@ public final class CourtTongue {
             return !scale.bendsInSomeSeason(draftFacts, draft.people) || failAt(ABOVE_ITSELF, otherPlace);
         }
 
-        private boolean readPart() {
+        private boolean readPartName() {
             if (draft.parts >= MOST_PARTS) {
                 return fail(TOO_MUCH);
             }
             next();
-            int letters = value;
-            if (!isName() || draft.partNamed(letters) != NONE) {
-                return fail(isName() ? TOLD_ALREADY : TOO_STRANGE);
+            if (!isName()) {
+                return fail(TOO_STRANGE);
             }
+            if (draft.partNamed(value) != NONE) {
+                return fail(TOLD_ALREADY);
+            }
+            draft.addPart(value);
             next();
-            if (!readFormula(draft.parts)) {
-                return false;
-            }
-            draft.addPart(letters);
             return true;
         }
 
@@ -1661,18 +1667,22 @@ public final class CourtTongue {
             return true;
         }
 
-        private boolean readRise() {
+        private boolean readRiseWord() {
             if (draft.riseTold) {
                 return fail(TOLD_ALREADY);
             }
             draft.riseTold = true;
             next();
-            return readFormula(Formulas.RISE_FORMULA);
+            return true;
         }
 
         private int readNumber(int most) {
-            if (kind != NUMBER || value > most) {
-                fail(kind == NUMBER ? TOO_MUCH : TOO_STRANGE);
+            if (kind != NUMBER) {
+                fail(TOO_STRANGE);
+                return NONE;
+            }
+            if (value > most) {
+                fail(TOO_MUCH);
                 return NONE;
             }
             int number = value;
@@ -1681,9 +1691,13 @@ public final class CourtTongue {
         }
 
         private int personHere() {
-            int person = isName() ? draft.personNamed(value) : NONE;
+            if (!isName()) {
+                fail(TOO_STRANGE);
+                return NONE;
+            }
+            int person = draft.personNamed(value);
             if (person == NONE) {
-                fail(isName() ? NOT_TOLD : TOO_STRANGE);
+                fail(NOT_TOLD);
             }
             return person;
         }
@@ -1697,7 +1711,9 @@ public final class CourtTongue {
         }
 
         private boolean fail(int number) {
-            return failAt(number, place);
+            fault = number;
+            faultPlace = place;
+            return false;
         }
 
         private boolean failAt(int number, int where) {
@@ -1732,13 +1748,11 @@ public final class CourtTongue {
             if (kind == NUMBER && value > MOST_NUMBER) {
                 return fail(TOO_MUCH);
             }
-            if (kind == NUMBER || knot >= NAME_KNOT && knot < NAME_KNOT + NAMES) {
-                operandDue = false;
-                if (!countKnot()) {
-                    return false;
-                }
-                draft.formulas.add(kind == NUMBER ? value : knot);
-                return true;
+            if (kind == NUMBER) {
+                return takeLeaf(value);
+            }
+            if (knot >= NAME_KNOT && knot < NAME_KNOT + NAMES) {
+                return takeLeaf(knot);
             }
             if (knot == OPEN) {
                 return takeOpen();
@@ -1747,6 +1761,15 @@ public final class CourtTongue {
                 return countKnot() && letWait(knot);
             }
             return fail(TOO_STRANGE);
+        }
+
+        private boolean takeLeaf(int leaf) {
+            if (!countKnot()) {
+                return false;
+            }
+            draft.formulas.add(leaf);
+            operandDue = false;
+            return true;
         }
 
         /** False, without a FAULT, where the E ends. */
@@ -1882,8 +1905,8 @@ public final class CourtTongue {
         }
 
         private int languageWord(int letters) {
-            for (int word = 0; word < WORDS; word++) {
-                if (at(language, word) == letters) {
+            for (int word = 0; word < language.length; word++) {
+                if (language[word] == letters) {
                     return word;
                 }
             }
