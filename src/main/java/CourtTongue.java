@@ -1486,8 +1486,8 @@ public final class CourtTongue {
         private static final int END = 0;
         private static final int WORD = 1;
         private static final int NUMBER = 2;
-        private static final int SIGN = 3;
-        private static final int STRANGE = 4;
+        // A sign, or no TOKEN at all: its knot tells.
+        private static final int OTHER = 3;
         // Above all that may be told; a longer number stays here.
         private static final int HUGE = 100000;
         private static final int COMPARISON = 4;
@@ -1883,7 +1883,7 @@ public final class CourtTongue {
             }
             int count = cursor - place;
             if (count > WORD_LETTERS) {
-                kind = STRANGE;
+                kind = OTHER;
                 return;
             }
             kind = WORD;
@@ -1935,7 +1935,7 @@ public final class CourtTongue {
                 knot = AT_LEAST;
                 cursor++;
             }
-            kind = knot == NONE ? STRANGE : SIGN;
+            kind = OTHER;
         }
 
         private static int knotOfSign(int sign) {

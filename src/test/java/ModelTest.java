@@ -1252,7 +1252,83 @@ public final class ModelTest {
         }
     }
 
+    // ---- what short runs seldom meet ----
+
+    private static void feedTo(CourtTongue x, Model model, String text) {
+        for (int i = 0; i < text.length(); i += 20) {
+            int[] five = new int[5];
+            for (int j = 0; j < 20; j++) {
+                five[j / 4] = five[j / 4] << 8 | (i + j < text.length() ? text.charAt(i + j) : ' ');
+            }
+            x.feed(five[0], five[1], five[2], five[3], five[4]);
+        }
+        model.tape = text;
+        due(-1, "text of " + text, x.text(text.length()), model.text(text.length()));
+    }
+
+    /** Found by search: the clerk needs up to twenty STEPS among four others. */
+    private static void longRises() {
+        String[] courts = {
+            "person a 3;person b 3;person c 4;person d 1;person e 2;above c e;above a d;above a e;above d e;"
+                + "rise elder and (hearer<1) and not (time=3) or (time=3);",
+            "person a 3;person b 0;person c 0;person d 4;person e 0;above a d in 0;above e c in 0;above a c in 3;"
+                + "rise (time=0) or elder and (gap<2);",
+            "person a 2;person b 2;person c 0;person d 4;person e 0;above e c in 3;above b d;above e d;"
+                + "rise (time=0) or not elder or (time=0) and (gap=1) and (time=0);",
+            "person a 4;person b 3;person c 3;person d 4;person e 3;above d c in 1;above a c in 2;above b c;above c e;"
+                + "rise (hearer=0) and (time<>1) or (time=0) or gap and (hearer<1);",
+            "person a 2;person b 4;person c 4;person d 1;person e 3;above c d in 0;above d b in 1;above a c;"
+                + "above d a in 2;rise (time<>1) and (time<>1) or not (hearer<1);"};
+        int longest = 0;
+        for (String court : courts) {
+            CourtTongue x = new CourtTongue();
+            Model model = new Model();
+            feedTo(x, model, court);
+            for (int pair = 0; pair < 25; pair++) {
+                int steps = model.rise(pair / 5, pair % 5, -1);
+                longest = Math.max(longest, steps);
+                for (int k = -1; k <= Math.max(0, steps); k++) {
+                    String call = "rise " + pair / 5 + " " + pair % 5 + " " + k + " in " + court;
+                    due(-1, call, x.rise(pair / 5, pair % 5, k), model.rise(pair / 5, pair % 5, k));
+                }
+            }
+        }
+        due(-1, "the longest rise", longest, 20);
+    }
+
+    private static void allRowsOfFive() {
+        CourtTongue x = new CourtTongue();
+        Model model = new Model();
+        feedTo(x, model, "person a 1;person b 2;part a 3;part b 5;part c 1;part d 4;part e 2;");
+        List<Integer> right = model.rightNow(0, 1, 1);
+        for (List<Integer> row : model.allRows()) {
+            due(-1, "offence " + row, x.offence(0, 1, 1, model.pack(row)), model.offence(right, row));
+            due(-1, "amends " + row, x.amends(0, 1, 1, model.pack(row)), model.amends(right, row));
+        }
+        int whole = 0;
+        for (int row = 0; row < 1 << 15; row++) {
+            whole += x.offence(0, 1, 1, row) >= 0 ? 1 : 0;
+        }
+        due(-1, "rows of five words", whole, 120);
+    }
+
+    private static void allOrdersOfFive() {
+        CourtTongue x = new CourtTongue();
+        Model model = new Model();
+        feedTo(x, model, "person a 1;person b 2;person c 3;person d 4;person e 5;");
+        int count = model.possible(List.of()).size();
+        for (int k = 0; k < count; k++) {
+            for (int pair = 0; pair < 25; pair++) {
+                int want = model.order(k, pair / 5, pair % 5);
+                due(-1, "order " + k + " " + pair / 5 + " " + pair % 5, x.order(k, pair / 5, pair % 5), want);
+            }
+        }
+    }
+
     public static void main(String[] args) {
+        longRises();
+        allRowsOfFive();
+        allOrdersOfFive();
         int sound = 0;
         for (int run = 0; run < RUNS; run++) {
             CourtTongue x = new CourtTongue();

@@ -184,6 +184,33 @@ public final class PromiseTest {
         due("and the rest is gone", y.text(1), -2);
     }
 
+    /** The TEXT ends within a word, a number or a sign of the TAPE: what stands behind is no part of it. */
+    private static void cut(String tape, int n, int fault, int place) {
+        CourtTongue x = new CourtTongue();
+        lay(x, tape);
+        due("the first " + n + " of " + tape, x.text(n), -1);
+        due("its fault", x.fault(0), fault);
+        due("its place", x.fault(1), place);
+    }
+
+    private static void cutTexts() {
+        promise = "promise 3, cut";
+        cut("risexy 1;", 4, 1, 4);
+        cut("person a 5;person b 6;", 12, 1, 11);
+        cut("season 19;", 8, 1, 8);
+        cut("season 1;", 8, 1, 8);
+        cut("part p 1<=2;", 9, 1, 9);
+        cut("part p 1>=2;", 9, 1, 9);
+        cut("part p 1 and 2;", 11, 1, 9);
+        cut("part p gapp;", 10, 1, 10);
+        CourtTongue x = new CourtTongue();
+        lay(x, "person abc 7;x");
+        due("cut behind a line", x.text(13), 1);
+        lay(x, "person abcdef 7;");
+        due("cut within a name", x.text(9), -1);
+        due("the name is short, the age is due", x.fault(1), 9);
+    }
+
     private static void faultOne() {
         promise = "promise 4, fault 1";
         faulty("x", 1, 0);
@@ -902,6 +929,13 @@ public final class PromiseTest {
         due("now", late.rise(1, 0, -1), 1);
         late.season(1);
         due("not in this season", late.rise(1, 0, -1), -2);
+        CourtTongue lower = of(people(3) + "above a b;above c b;"
+            + "rise (hearer=0-1) + (theme=0-1) + self + (both=0) + (old=0) = 5;");
+        // Only with one who is below the clerk: a changes with b, and is below then.
+        due("down", lower.rise(0, 2, -1), -2);
+        due("down and no more", lower.rise(2, 0, -1), -2);
+        CourtTongue upper = of(people(3) + "above a b;above a c;rise (hearer=0-1)+(theme=0-1)+self=3 or hearer=1;");
+        due("up", upper.rise(1, 0, -1), 1);
         CourtTongue old = of("person a 9;person b 5;person c 7;above a b;above a c;rise elder;");
         due("by age", old.rise(1, 0, 0), 0);
         CourtTongue turn = of(people(3) + "above a b;rise time<>0 or hearer<>1;season 0;");
@@ -970,6 +1004,7 @@ public final class PromiseTest {
         newObject();
         feed();
         text();
+        cutTexts();
         faultOne();
         faultTwo();
         faultsOfTelling();
