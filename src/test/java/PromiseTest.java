@@ -896,6 +896,11 @@ public final class PromiseTest {
         due("no such ones", y.silence(0, 1, 2, 0), -1);
         CourtTongue z = of(people(3) + "above b a;above c b;part p 1;part q 2*hearer;part r 2*theme;");
         due("hearer and theme", z.silence(0, 1, 2, 1), 7);
+        CourtTongue fewer = of(people(2)
+            + "above b a;part p 0;part q 2*hearer+1;part r 2*hearer*hearer-1;part s 5*hearer-1;");
+        // p q r are enough, no two of them are; but p s are, fewer, though their bits are more.
+        due("the fewest go ahead of the least bits", fewer.silence(0, 1, 1, 1), 9);
+        due("two are left", fewer.silence(0, 1, 1, 0), 2);
         due("without parts, neither", of(people(2)).silence(0, 1, 1, 0), -2);
     }
 
