@@ -598,6 +598,11 @@ public final class PromiseTest {
         due("not(0 and 0)", worth("not(0 and 0)"), 1);
         due("(1<2)+(1<2)", worth("(1<2)+(1<2)"), 2);
         due("no blanks", worth("1or 0and(not 1)"), 1);
+        due("63 knots", worth("0" + many("+1", 31)), 31);
+        due("64 knots, the last one counts", worth("not(0" + many("+1", 31) + ")"), 0);
+        due("63 times not", worth(many("not ", 63) + "1"), 0);
+        due("in eight brackets", worth(many("(", 8) + many("not ", 63) + "1" + many(")", 8)), 0);
+        due("all that can wait", worth(many("1 or 1 and 1=1+1*(", 5) + "0" + many(")", 5)), 1);
     }
 
     private static void placeErrors() {
@@ -611,6 +616,8 @@ public final class PromiseTest {
         due("and 1", worth(billion + "*1000+1"), ERROR);
         due("below 0", worth("0-" + billion + "*1000"), -1000000000000L);
         due("and 1", worth("0-" + billion + "*1000-1"), ERROR);
+        due("10 to the 12 by plus", worth(billion + "*999+" + billion), 1000000000000L);
+        due("below 0 by minus", worth("0-" + billion + "*999-" + billion), -1000000000000L);
         due("back within doesn't help", worth(billion + "*1001-" + billion), ERROR);
         String huge = "(" + billion + "*1000)";
         due("beyond a long", worth(huge + "*" + huge), ERROR);
@@ -939,6 +946,9 @@ public final class PromiseTest {
         // Only with one who is below the clerk: a changes with b, and is below then.
         due("down", lower.rise(0, 2, -1), -2);
         due("down and no more", lower.rise(2, 0, -1), -2);
+        CourtTongue through = of(people(3) + "above a b in 0;above b c in 1;rise hearer=0-1 and theme=0-1;");
+        due("down to the place that is above c in the next season", through.rise(0, 2, -1), 1);
+        due("to b", through.rise(0, 2, 0), 1);
         CourtTongue upper = of(people(3) + "above a b;above a c;rise (hearer=0-1)+(theme=0-1)+self=3 or hearer=1;");
         due("up", upper.rise(1, 0, -1), 1);
         CourtTongue old = of("person a 9;person b 5;person c 7;above a b;above a c;rise elder;");
