@@ -125,6 +125,7 @@ public final class CourtTongue {
         facts.take(reader.draftFacts);
         seasonNow = book.firstSeason;
         memory.clear();
+        orders.forget();
         imageKept = false;
         return reader.lines;
     }
@@ -312,11 +313,10 @@ public final class CourtTongue {
     }
 
     public int possible() {
-        orders.make(book.people);
-        int told = memory.knownSayings();
+        orders.settle(book.people, memory);
         int count = 0;
         for (int k = 0; k < orders.size; k++) {
-            if (memory.firstWrong(at(orders.codes, k), told) == NONE) {
+            if (orders.firstWrong(k) == NONE) {
                 count++;
             }
         }
@@ -327,13 +327,11 @@ public final class CourtTongue {
         if (!areTwo(one, other)) {
             return NONE;
         }
-        orders.make(book.people);
-        int told = memory.knownSayings();
+        orders.settle(book.people, memory);
         int met = 0;
         for (int k = 0; k < orders.size; k++) {
-            int code = at(orders.codes, k);
-            if (memory.firstWrong(code, told) == NONE) {
-                met |= 1 << Orders.answer(code, one, other);
+            if (orders.firstWrong(k) == NONE) {
+                met |= 1 << orders.answer(k, one, other);
             }
         }
         if (met == 0) {
@@ -344,11 +342,10 @@ public final class CourtTongue {
     }
 
     public int cannot() {
-        orders.make(book.people);
-        int told = memory.knownSayings();
+        orders.settle(book.people, memory);
         int latest = NONE;
         for (int k = 0; k < orders.size; k++) {
-            int wrong = memory.firstWrong(at(orders.codes, k), told);
+            int wrong = orders.firstWrong(k);
             if (wrong == NONE) {
                 return NONE;
             }
@@ -361,14 +358,12 @@ public final class CourtTongue {
         if (!areTwo(one, other) || k < 0) {
             return NONE;
         }
-        orders.make(book.people);
-        int told = memory.knownSayings();
+        orders.settle(book.people, memory);
         int ahead = k;
         for (int i = 0; i < orders.size; i++) {
-            int code = at(orders.codes, i);
-            if (memory.firstWrong(code, told) == NONE) {
+            if (orders.firstWrong(i) == NONE) {
                 if (ahead == 0) {
-                    return Orders.answer(code, one, other);
+                    return orders.answer(i, one, other);
                 }
                 ahead--;
             }
@@ -1248,76 +1243,107 @@ public final class CourtTongue {
     private static final class Orders {
         // So many can five people have.
         private static final int MOST_ORDERS = 4231;
-        private static final int FIRST_SHIFT = 18;
-        private static final int CODES = 1 << 20;
+        private static final int LAST_PAIR = 9;
+        private static final int[] ONES = {0, 0, 0, 0, 1, 1, 1, 2, 2, 3};
+        private static final int[] OTHERS = {1, 2, 3, 4, 2, 3, 4, 3, 4, 4};
+        // Of each two the shift of their pair.
+        private static final int[] SHIFTS = {
+            0, 18, 16, 14, 12,
+            18, 0, 10, 8, 6,
+            16, 10, 0, 4, 2,
+            14, 8, 4, 0, 0,
+            12, 6, 2, 0, 0};
+        // Far above what five people need.
+        private static final int MOST_TRIES = 1000000;
 
-        final int[] codes = new int[MOST_ORDERS];
         int size;
+        private final int[] codes = new int[MOST_ORDERS];
         private int madeFor = NONE;
+        // Of each order the first saying that isn't RIGHT in it: kept until other sayings are KNOWN.
+        private final int[] wrongs = new int[MOST_ORDERS];
+        private boolean settled;
+        private int settledBy;
 
-        void make(int people) {
+        void forget() {
+            settled = false;
+        }
+
+        void settle(int people, Memory memory) {
+            int told = memory.knownSayings();
+            if (settled && told == settledBy) {
+                return;
+            }
+            make(people);
+            for (int k = 0; k < size; k++) {
+                put(wrongs, k, memory.firstWrong(at(codes, k), told));
+            }
+            settled = true;
+            settledBy = told;
+        }
+
+        int firstWrong(int k) {
+            return at(wrongs, k);
+        }
+
+        /** 1: the first is above, 2: below, 0: NEITHER. */
+        int answer(int k, int one, int other) {
+            int standing = between(at(codes, k), one, other);
+            return standing < 0 ? 2 : standing;
+        }
+
+        /** Goes through the choices of each pair, and on to the next pair only where above goes on so far. */
+        private void make(int people) {
             if (people == madeFor) {
                 return;
             }
             size = 0;
             int code = 0;
-            while (code < CODES) {
-                int weight = firstUnfit(code, people);
-                if (weight == 0) {
+            int pair = 0;
+            for (int i = 0; i < MOST_TRIES && pair >= 0; i++) {
+                int shift = shiftOf(pair);
+                int lastChoice = at(OTHERS, pair) < people ? 2 : 0;
+                if ((code >> shift & 3) > lastChoice) {
+                    code &= ~(3 << shift);
+                    pair--;
+                    code += 1 << shiftOf(pair);
+                } else if (!goesOnSoFar(code, pair)) {
+                    code += 1 << shift;
+                } else if (pair < LAST_PAIR) {
+                    pair++;
+                } else {
                     put(codes, size, code);
                     size++;
-                    weight = 1;
+                    code += 1 << shift;
                 }
-                // On to the next choice for that pair; all pairs behind it begin anew.
-                code = (code | (weight - 1)) + 1;
             }
             madeFor = people;
         }
 
-        /** The weight of the first pair that can't be so behind those ahead of it; 0: all can. */
-        private static int firstUnfit(int code, int people) {
-            for (int one = 0; one < MOST_PEOPLE; one++) {
-                for (int other = one + 1; other < MOST_PEOPLE; other++) {
-                    int pair = code >> shiftOf(one, other) & 3;
-                    boolean strange = pair == 3 || pair != 0 && other >= people;
-                    if (strange || !goesOnAhead(code, one, other)) {
-                        return 1 << shiftOf(one, other);
-                    }
-                }
-            }
-            return 0;
-        }
-
-        private static boolean goesOnAhead(int code, int one, int other) {
+        private static boolean goesOnSoFar(int code, int pair) {
+            int one = at(ONES, pair);
+            int other = at(OTHERS, pair);
+            int standing = between(code, one, other);
             for (int ahead = 0; ahead < one; ahead++) {
-                if (!goesOn(between(code, ahead, one), between(code, one, other), between(code, ahead, other))) {
+                if (!goesOn(between(code, ahead, one), standing, between(code, ahead, other))) {
                     return false;
                 }
             }
             return true;
         }
 
-        private static int shiftOf(int one, int other) {
-            int pairsAhead = one * (2 * MOST_PEOPLE - 1 - one) / 2;
-            return FIRST_SHIFT - 2 * (pairsAhead + other - one - 1);
+        private static int shiftOf(int pair) {
+            return 2 * (LAST_PAIR - pair);
         }
 
         /** 1: the first is above, -1: below, 0: NEITHER, or both the same. */
         static int between(int code, int one, int other) {
-            int answer = answer(code, one, other);
-            return answer == 2 ? -1 : answer;
-        }
-
-        /** 1: the first is above, 2: below, 0: NEITHER, or both the same. */
-        static int answer(int code, int one, int other) {
             if (one == other) {
                 return 0;
             }
-            if (one < other) {
-                return code >> shiftOf(one, other) & 3;
-            }
-            int turned = code >> shiftOf(other, one) & 3;
-            return turned == 0 ? 0 : 3 - turned;
+            int choice = code >> at(SHIFTS, MOST_PEOPLE * one + other) & 3;
+            // Told of the one who comes first among PEOPLE.
+            int standing = choice == 2 ? -1 : choice;
+            return one < other ? standing : -standing;
         }
     }
 
