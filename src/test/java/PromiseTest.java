@@ -794,6 +794,15 @@ public final class PromiseTest {
         due("by the season of the saying", y.possible(), 3);
         y.hear(0, 1, 1, 0, row(0, 1));
         due("none", y.possible(), 0);
+        CourtTongue z = of(people(2) + "part p 0;part q hearer;");
+        z.hear(0, 1, 1, 0, row(1, 0));
+        due("below", z.possible(), 1);
+        read(z, people(2) + "part p 0;part q hearer;");
+        z.hear(0, 1, 1, 0, row(0, 1));
+        due("of another text with as many sayings", z.possible(), 2);
+        read(z, people(3) + "part p 0;part q hearer;");
+        z.hear(0, 1, 1, 0, row(1, 0));
+        due("of three people", z.possible(), 6);
     }
 
     private static void sure() {
