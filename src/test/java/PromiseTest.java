@@ -1,112 +1,13 @@
-import java.util.NoSuchElementException;
-
 /** Written by hand from the document: every promise with ordinary inputs, the edges it names, and wrong inputs. */
-public final class PromiseTest {
-    private static final long ERROR = Long.MIN_VALUE;
+public final class PromiseTest extends CourtCheck {
     private static final String COURT =
         "person king 60;person duke 40;person page 20;above king duke;above duke page in 1;"
         + "part verb 5;part name 5-hearer*3;part title 4+hearer*2-theme;season 1;";
 
-    private static int checks = 0;
-    private static int wrong = 0;
-    private static String promise = "";
-
-    private static void due(String what, long got, long want) {
-        checks++;
-        if (got != want) {
-            wrong++;
-            System.out.println(promise + ": " + what + " answered " + got + ", due is " + want);
-        }
-    }
-
-    private static void yes(String what, boolean got) {
-        due(what, got ? 1 : 0, 1);
-    }
-
-    private static void no(String what, boolean got) {
-        due(what, got ? 1 : 0, 0);
-    }
-
-    private static int lay(CourtTongue x, String text) {
-        int answer = 0;
-        for (int i = 0; i < text.length(); i += 20) {
-            int[] five = new int[5];
-            for (int j = 0; j < 20; j++) {
-                int sign = i + j < text.length() ? text.charAt(i + j) : ' ';
-                five[j / 4] = five[j / 4] << 8 | sign;
-            }
-            answer = x.feed(five[0], five[1], five[2], five[3], five[4]);
-        }
-        return answer;
-    }
-
-    private static int read(CourtTongue x, String text) {
-        lay(x, text);
-        return x.text(text.length());
-    }
-
-    private static CourtTongue of(String text) {
-        CourtTongue x = new CourtTongue();
-        if (read(x, text) < 0) {
-            throw new IllegalStateException("fault " + x.fault(0) + " at " + x.fault(1) + " in " + text);
-        }
-        return x;
-    }
-
-    private static void faulty(String text, int fault, int place) {
-        CourtTongue x = new CourtTongue();
-        due("text of " + text, read(x, text), -1);
-        due("fault of " + text, x.fault(0), fault);
-        due("place of it in " + text, x.fault(1), place);
-    }
-
-    private static void sound(String text, int lines) {
-        CourtTongue x = new CourtTongue();
-        due("text of " + text, read(x, text), lines);
-        due("fault of " + text, x.fault(0), 0);
-        due("place of it in " + text, x.fault(1), -1);
-    }
-
-    private static int letters(String word) {
-        int packed = 0;
-        for (int i = 0; i < 6; i++) {
-            packed = packed << 5 | (i < word.length() ? word.charAt(i) - 'a' + 1 : 0);
-        }
-        return packed;
-    }
-
-    private static int row(int... words) {
-        int packed = 0;
-        for (int i = 0; i < words.length; i++) {
-            packed |= words[i] << 3 * i;
-        }
-        return packed;
-    }
-
-    private static int way(int hearer, int theme, int both) {
-        return 1 << 9 * (hearer + 1) + 3 * (theme + 1) + both + 1;
-    }
-
-    private static String many(String piece, int times) {
-        return piece.repeat(times);
-    }
-
-    private static String people(int count) {
-        StringBuilder text = new StringBuilder();
-        for (int i = 0; i < count; i++) {
-            text.append("person ").append((char) ('a' + i)).append(' ').append(10 * i + 10).append(';');
-        }
-        return text.toString();
-    }
-
-    private static long worth(String formula) {
-        return of("person a 30;person b 20;person c 40;above a b;part p " + formula + ";").place(0, 0, 1, 2);
-    }
-
     // ---- 1 .. 5 ----
 
     private static void newObject() {
-        promise = "promise 1";
+        test = "promise 1";
         CourtTongue x = new CourtTongue();
         for (int what = 0; what < 8; what++) {
             due("count " + what, x.count(what), 0);
@@ -125,7 +26,7 @@ public final class PromiseTest {
     }
 
     private static void feed() {
-        promise = "promise 2";
+        test = "promise 2";
         CourtTongue x = new CourtTongue();
         for (int i = 1; i <= 35; i++) {
             due("feed " + i, x.feed(0x20202020, 0x20202020, 0x20202020, 0x20202020, 0x20202020), 20 * i);
@@ -147,7 +48,7 @@ public final class PromiseTest {
     }
 
     private static void text() {
-        promise = "promise 3";
+        test = "promise 3";
         CourtTongue x = new CourtTongue();
         lay(x, COURT);
         due("text(-1)", x.text(-1), -2);
@@ -185,16 +86,8 @@ public final class PromiseTest {
     }
 
     /** The TEXT ends within a word, a number or a sign of the TAPE: what stands behind is no part of it. */
-    private static void cut(String tape, int n, int fault, int place) {
-        CourtTongue x = new CourtTongue();
-        lay(x, tape);
-        due("the first " + n + " of " + tape, x.text(n), -1);
-        due("its fault", x.fault(0), fault);
-        due("its place", x.fault(1), place);
-    }
-
     private static void cutTexts() {
-        promise = "promise 3, cut";
+        test = "promise 3, cut";
         cut("risexy 1;", 4, 1, 4);
         cut("person a 5;person b 6;", 12, 1, 11);
         cut("season 19;", 8, 1, 8);
@@ -212,7 +105,7 @@ public final class PromiseTest {
     }
 
     private static void faultOne() {
-        promise = "promise 4, fault 1";
+        test = "promise 4, fault 1";
         faulty("x", 1, 0);
         faulty(";", 1, 0);
         faulty("!", 1, 0);
@@ -266,7 +159,7 @@ public final class PromiseTest {
     }
 
     private static void faultTwo() {
-        promise = "promise 4, fault 2";
+        test = "promise 4, fault 2";
         faulty("person a 100;", 2, 9);
         faulty("person a 99999999999999999999;", 2, 9);
         sound("person a 99;", 1);
@@ -291,19 +184,14 @@ public final class PromiseTest {
         sound("part p 0" + many("+1", 31) + ";rise 1;", 2);
         faulty("part p 0" + many("+1", 31) + ";rise 1+1;", 2, 77);
         faulty("part p 0" + many("+1", 31) + ";part q 1;rise gap;", 2, 85);
-        StringBuilder facts = new StringBuilder(people(5));
-        for (int i = 0; i < 16; i++) {
-            char upper = (char) ('a' + i / 4);
-            char lower = (char) (upper + 1);
-            facts.append("above ").append(upper).append(' ').append(lower).append(" in ").append(i % 4).append(';');
-        }
-        sound(facts.toString(), 21);
+        String facts = people(5) + sixteenFacts();
+        sound(facts, 21);
         faulty(facts + "above", 2, facts.length());
         faulty(facts + "level a", 2, facts.length());
     }
 
     private static void faultsOfTelling() {
-        promise = "promise 4, faults 3 to 5";
+        test = "promise 4, faults 3 to 5";
         faulty("person a 1;person a 2;", 3, 18);
         faulty("part a 1;part a x", 3, 14);
         sound("person a 1;part a 2;", 2);
@@ -340,7 +228,7 @@ public final class PromiseTest {
     }
 
     private static void faultCall() {
-        promise = "promise 4";
+        test = "promise 4";
         CourtTongue x = new CourtTongue();
         read(x, "person a 1;!");
         due("fault 0", x.fault(0), 1);
@@ -355,7 +243,7 @@ public final class PromiseTest {
     }
 
     private static void named() {
-        promise = "promise 5";
+        test = "promise 5";
         CourtTongue x = of("person z 1;person abcdef 2;part abc 1;part z 2;");
         due("z", x.named(0, letters("z")), 0);
         due("abcdef", x.named(0, letters("abcdef")), 1);
@@ -372,20 +260,8 @@ public final class PromiseTest {
 
     // ---- 6 .. 12 ----
 
-    /** 0: an answer, 1: IndexOutOfBoundsException, 2: NoSuchElementException. */
-    private static int thrown(CourtTongue x, int person, int what) {
-        try {
-            x.look(person, what);
-            return 0;
-        } catch (IndexOutOfBoundsException e) {
-            return 1;
-        } catch (NoSuchElementException e) {
-            return 2;
-        }
-    }
-
     private static void look() {
-        promise = "promise 6";
+        test = "promise 6";
         CourtTongue x = of(people(5) + "above a b;above b c in 2;level c d;above d e;");
         due("age", x.look(4, 0), 50);
         due("above c in season 0", x.look(2, 1), 0);
@@ -406,7 +282,7 @@ public final class PromiseTest {
     }
 
     private static void stands() {
-        promise = "promise 7";
+        test = "promise 7";
         CourtTongue x = of(people(4) + "above a b;above b c in 2;level c d;");
         due("a b", x.stands(0, 1, 0), 1);
         due("b a", x.stands(1, 0, 3), 2);
@@ -422,7 +298,7 @@ public final class PromiseTest {
     }
 
     private static void season() {
-        promise = "promise 8";
+        test = "promise 8";
         CourtTongue x = new CourtTongue();
         yes("season 3", x.season(3));
         due("it is", x.count(4), 3);
@@ -434,7 +310,7 @@ public final class PromiseTest {
     }
 
     private static void raise() {
-        promise = "promise 9";
+        test = "promise 9";
         CourtTongue x = of(people(3) + "above a b in 1;");
         due("no such one", x.raise(0, 3, 0), -1);
         due("no such one", x.raise(-1, 0, 0), -1);
@@ -466,7 +342,7 @@ public final class PromiseTest {
     }
 
     private static void strike() {
-        promise = "promise 10";
+        test = "promise 10";
         CourtTongue x = of(people(3) + "above a b;above b c in 2;");
         no("fact 2", x.strike(2));
         no("fact -1", x.strike(-1));
@@ -481,7 +357,7 @@ public final class PromiseTest {
     }
 
     private static void fact() {
-        promise = "promise 11";
+        test = "promise 11";
         CourtTongue x = of(people(3) + "above a b;level c b;above a c in 2;");
         x.raise(0, 2, 0);
         x.strike(2);
@@ -504,7 +380,7 @@ public final class PromiseTest {
     }
 
     private static void ring() {
-        promise = "promise 12";
+        test = "promise 12";
         CourtTongue x = of(people(5) + "above a c;above a b;above b d;above c d;above d e in 1;");
         due("a to d", x.ring(0, 3, -1), 3);
         due("its first", x.ring(0, 3, 0), 0);
@@ -533,7 +409,7 @@ public final class PromiseTest {
     // ---- 13 .. 18 ----
 
     private static void say() {
-        promise = "promise 13";
+        test = "promise 13";
         CourtTongue x = of(COURT);
         due("page to king about duke", x.say(2, 0, 1), row(1, 0, 2));
         due("king to duke about page", x.say(0, 1, 2), row(2, 0, 1));
@@ -554,7 +430,7 @@ public final class PromiseTest {
     }
 
     private static void placeOfNames() {
-        promise = "promise 14, names";
+        test = "promise 14, names";
         CourtTongue x = of("person a 30;person b 20;person c 40;person d 20;above a b;above c b in 1;level c d;"
             + "part p hearer*1000+theme*100+both*10+self;part q elder*100+old*10+time;part r gap;");
         due("b to a about c", x.place(0, 1, 0, 2), 1000);
@@ -572,7 +448,7 @@ public final class PromiseTest {
     }
 
     private static void placeOfSigns() {
-        promise = "promise 14, signs";
+        test = "promise 14, signs";
         due("1+2*3", worth("1+2*3"), 7);
         due("(1+2)*3", worth("(1+2)*3"), 9);
         due("9-4-3", worth("9-4-3"), 2);
@@ -606,20 +482,19 @@ public final class PromiseTest {
     }
 
     private static void placeErrors() {
-        promise = "promise 14, errors";
+        test = "promise 14, errors";
         due("1/0", worth("1/0"), ERROR);
         due("0 and 1/0", worth("0 and 1/0"), ERROR);
         due("1 or 1/0", worth("1 or 1/0"), ERROR);
         due("not(1/0)", worth("not (1/0)"), ERROR);
-        String billion = "1000*1000*1000";
-        due("10 to the 12", worth(billion + "*1000"), 1000000000000L);
-        due("and 1", worth(billion + "*1000+1"), ERROR);
-        due("below 0", worth("0-" + billion + "*1000"), -1000000000000L);
-        due("and 1", worth("0-" + billion + "*1000-1"), ERROR);
-        due("10 to the 12 by plus", worth(billion + "*999+" + billion), 1000000000000L);
-        due("below 0 by minus", worth("0-" + billion + "*999-" + billion), -1000000000000L);
-        due("back within doesn't help", worth(billion + "*1001-" + billion), ERROR);
-        String huge = "(" + billion + "*1000)";
+        due("10 to the 12", worth(BILLION + "*1000"), 1000000000000L);
+        due("and 1", worth(BILLION + "*1000+1"), ERROR);
+        due("below 0", worth("0-" + BILLION + "*1000"), -1000000000000L);
+        due("and 1", worth("0-" + BILLION + "*1000-1"), ERROR);
+        due("10 to the 12 by plus", worth(BILLION + "*999+" + BILLION), 1000000000000L);
+        due("below 0 by minus", worth("0-" + BILLION + "*999-" + BILLION), -1000000000000L);
+        due("back within doesn't help", worth(BILLION + "*1001-" + BILLION), ERROR);
+        String huge = "(" + BILLION + "*1000)";
         due("beyond a long", worth(huge + "*" + huge), ERROR);
         due("beyond a long, below 0", worth("(0-" + huge + ")*" + huge), ERROR);
         due("times 0", worth(huge + "*0"), 0);
@@ -632,7 +507,7 @@ public final class PromiseTest {
     }
 
     private static void offenceAndAmends() {
-        promise = "promises 15, 16";
+        test = "promises 15, 16";
         CourtTongue x = of(people(2) + "part a 1;part b 2;part c 3;part d 4;part e 5;");
         due("right", x.offence(0, 1, 1, row(0, 1, 2, 3, 4)), 0);
         due("turned", x.offence(0, 1, 1, row(4, 3, 2, 1, 0)), 10);
@@ -659,7 +534,7 @@ public final class PromiseTest {
     }
 
     private static void hall() {
-        promise = "promise 17";
+        test = "promise 17";
         CourtTongue x = of(people(4) + "part p 2;part q 1+2*elder;part r 5*(1-elder);");
         // Speaker b: a is younger (q p r), c and d are older (r p q): two against one.
         int younger = row(1, 0, 2);
@@ -696,7 +571,7 @@ public final class PromiseTest {
     }
 
     private static void claims() {
-        promise = "promise 18";
+        test = "promise 18";
         CourtTongue x = of(people(3) + "part p 0;part q hearer;");
         // q ahead of p only if the hearer is below: with three others there are five such ways of nineteen.
         int below = way(-1, -1, -1) | way(-1, -1, 0) | way(-1, -1, 1) | way(-1, 0, 0) | way(-1, 0, 1) | way(-1, 1, 1);
@@ -718,7 +593,7 @@ public final class PromiseTest {
     // ---- 19 .. 26 ----
 
     private static void hearAndUnhear() {
-        promise = "promises 19, 20";
+        test = "promises 19, 20";
         CourtTongue x = of(people(3) + "part p 0;part q hearer;");
         due("hear", x.hear(0, 1, 2, 0, row(1, 0)), 0);
         due("no such season", x.hear(0, 1, 2, 4, row(1, 0)), -1);
@@ -741,7 +616,7 @@ public final class PromiseTest {
     }
 
     private static void known() {
-        promise = "promise 21";
+        test = "promise 21";
         CourtTongue x = of(people(2) + "part p 0;part q hearer;");
         due("none", x.possible(), 3);
         x.hear(0, 1, 1, 0, row(1, 0));
@@ -776,7 +651,7 @@ public final class PromiseTest {
     }
 
     private static void possible() {
-        promise = "promise 22";
+        test = "promise 22";
         int[] all = {1, 1, 3, 19, 219, 4231};
         for (int count = 0; count <= 5; count++) {
             due("of " + count, of(people(count)).possible(), all[count]);
@@ -806,7 +681,7 @@ public final class PromiseTest {
     }
 
     private static void sure() {
-        promise = "promise 23";
+        test = "promise 23";
         CourtTongue x = of(people(3) + "part p 0;part q hearer-1;part r hearer+1;");
         due("open", x.sure(0, 1), 3);
         x.hear(0, 1, 1, 0, row(1, 2, 0));
@@ -834,7 +709,7 @@ public final class PromiseTest {
     }
 
     private static void cannot() {
-        promise = "promise 24";
+        test = "promise 24";
         CourtTongue x = of(people(3) + "part p 0;part q hearer;");
         int below = row(1, 0);
         x.hear(0, 1, 1, 0, below);
@@ -853,7 +728,7 @@ public final class PromiseTest {
     }
 
     private static void order() {
-        promise = "promise 25";
+        test = "promise 25";
         CourtTongue x = of(people(3));
         due("0: 0 1", x.order(0, 0, 1), 0);
         due("0: 1 2", x.order(0, 1, 2), 0);
@@ -876,7 +751,7 @@ public final class PromiseTest {
     }
 
     private static void letter() {
-        promise = "promise 26";
+        test = "promise 26";
         CourtTongue x = of(people(3) + "above a b in 1;part p 0;part q hearer;");
         due("in season 0 nobody is below", x.letter(row(1, 0), 0, -1), 0);
         due("in season 0", x.letter(row(0, 1), 0, -1), 12);
@@ -895,7 +770,7 @@ public final class PromiseTest {
     // ---- 27 .. 31 ----
 
     private static void silence() {
-        promise = "promise 27";
+        test = "promise 27";
         CourtTongue x = of(people(2) + "above b a;part p 0;part q hearer;part r 2*hearer;");
         // The hearer is above: p q r. With q alone nothing is told; p q excludes below, not neither.
         due("neither stands alike", x.say(0, 1, 1), row(0, 1, 2));
@@ -921,7 +796,7 @@ public final class PromiseTest {
     }
 
     private static void rise() {
-        promise = "promise 28";
+        test = "promise 28";
         CourtTongue x = of(people(4) + "above a b;above b c;above c d;");
         due("without rise: one step", x.rise(3, 2, -1), 1);
         due("the first hearer", x.rise(3, 2, 0), 0);
@@ -971,7 +846,7 @@ public final class PromiseTest {
     }
 
     private static void image() {
-        promise = "promises 29, 30";
+        test = "promises 29, 30";
         CourtTongue x = of(people(3) + "above a b;above b c;season 2;");
         due("none", x.back(), -1);
         due("keep", x.keep(), 2);
@@ -1002,7 +877,7 @@ public final class PromiseTest {
     }
 
     private static void count() {
-        promise = "promise 31";
+        test = "promise 31";
         CourtTongue x = of(COURT);
         x.raise(0, 2, 0);
         x.strike(0);
@@ -1059,9 +934,6 @@ public final class PromiseTest {
         rise();
         image();
         count();
-        System.out.println("PromiseTest: " + (checks - wrong) + " of " + checks + " answers are as due");
-        if (wrong != 0) {
-            System.exit(1);
-        }
+        finish(PromiseTest.class);
     }
 }
