@@ -29,6 +29,14 @@ public final class BoundaryClerkTest extends CourtCheck {
         due("below and NEITHER are told otherwise", otherwise.silence(0, 1, 1, 1), 3);
         CourtTongue alike = of(hearerAbove + "part p 0;part q hearer;");
         due("NEITHER is told alike", alike.silence(0, 1, 1, 0), -2);
+        // Of the two the one is below already, and only the other can be lower: by one step, or by two.
+        String turned = people(3) + "above b a;above a c;";
+        CourtTongue theOne = of(turned + "part p 1;part q 2*hearer;part r theme-9;");
+        due("the hearer alone", theOne.silence(0, 1, 2, 1), 3);
+        due("the theme alone", of(turned + "part p 1;part q 2*theme;part r hearer-9;").silence(0, 2, 1, 1), 3);
+        String half = turned + "part p 0;part q ";
+        due("the hearer by one step", of(half + "hearer;").silence(0, 1, 2, 0), -2);
+        due("the theme by one step", of(half + "theme;").silence(0, 2, 1, 0), -2);
         // Who is below already can't be lower; who is NEITHER can be below alone.
         CourtTongue below = of(TWO + "above a b;part p 0;part q hearer;");
         due("nothing needs to be told", below.silence(0, 1, 1, 0), 0);
@@ -94,6 +102,8 @@ public final class BoundaryClerkTest extends CourtCheck {
         String ages = "person a 9;person b 10;person c 9;above a c;above b c;rise ";
         steps("of one who is older", of(ages + "elder;"), 2, 1, 1);
         due("of one who is not", of(ages + "elder;").rise(2, 0, -1), -2);
+        steps("elder is 1", of(ages + "elder=1;"), 2, 1, 1);
+        steps("old and both are 0", of(CHAIN + "rise not (old or both);"), 4, 3, 0);
     }
 
     /** Terms 3: "gap: how many are above the clerk, but not above the hearer (who may be one of them)" */
@@ -132,6 +142,12 @@ public final class BoundaryClerkTest extends CourtCheck {
             CourtTongue x = of(people(3) + "above a b;above b c;rise time=" + season + " and hearer=0-1 or time=" + next
                 + " and hearer=1;season " + season + ";");
             steps("from season " + season, x, 1, 0, 2, 0);
+        }
+        CourtTongue again = of(people(3) + "above a b in 0;above a c in 1;above b c in 2;above c a in 3;");
+        int[] fewest = {1, -2, 0, -2};
+        for (int i = 0; i < 8; i++) {
+            again.season(i % 4);
+            due("asked in season " + i % 4, again.rise(1, 2, -1), fewest[i % 4]);
         }
         CourtTongue y = of(TWO + "above b a in 0;above a b in 3;above b a in 1;above b a in 2;season 3;");
         due("above in season 3 alone", y.rise(0, 1, -1), 0);

@@ -41,6 +41,8 @@ public final class BoundaryHeardTest extends CourtCheck {
         due("there are 24", x.count(5), 24);
         due("all are KNOWN", x.count(6), 24);
         due("what they tell", x.sure(0, 1), 1);
+        due("the next TEXT", read(x, people(2) + TELLING), 4);
+        due("tells nothing", x.sure(0, 1), 3);
         CourtTongue y = ofSome(2);
         above(y, 0, 1);
         for (int i = 1; i < 24; i++) {
@@ -207,6 +209,10 @@ public final class BoundaryHeardTest extends CourtCheck {
         due("one", one.possible(), 1);
         due("of fewer PEOPLE behind more", read(one, people(2) + TELLING), 4);
         due("of two", one.possible(), 3);
+        CourtTongue both = of(people(3) + "part p 0;part q both*2+hearer*theme*0;");
+        both.hear(0, 1, 2, 0, AHEAD);
+        due("the theme below the hearer", both.sure(2, 1), 2);
+        due("a third of all but NEITHER", both.possible(), 6);
     }
 
     /** Terms 3: "SURE of two: above, below, NEITHER in all of these." */
@@ -281,6 +287,12 @@ public final class BoundaryHeardTest extends CourtCheck {
         due("nothing HEARD", x.cannot(), -1);
         above(x, 0, 1);
         due("one that can be", x.cannot(), -1);
+        CourtTongue first = ofSome(2);
+        neither(first, 0, 1);
+        due("in the first ORDER alone", first.cannot(), -1);
+        CourtTongue last = ofSome(2);
+        below(last, 0, 1);
+        due("in the last ORDER alone", last.cannot(), -1);
         never(x);
         due("one that can't", x.cannot(), 1);
         x.known(0);
@@ -328,6 +340,33 @@ public final class BoundaryHeardTest extends CourtCheck {
             all &= !above[i / 9][i / 3 % 3] || !above[i / 3 % 3][i % 3] || above[i / 9][i % 3];
         }
         return all;
+    }
+
+    /** Promise 25: "1 above, 2 below, 0 NEITHER" */
+    private static void eachTwoOfFive() {
+        // One ORDER each: one is above all others, and those are NEITHER.
+        for (int top = 0; top < 5; top++) {
+            CourtTongue x = ofSome(5);
+            for (int one = 0; one < 5; one++) {
+                for (int other = 0; other < one; other++) {
+                    if (one == top) {
+                        above(x, one, other);
+                    } else if (other == top) {
+                        above(x, other, one);
+                    } else {
+                        neither(x, one, other);
+                    }
+                }
+            }
+            due("one ORDER", x.possible(), 1);
+            for (int one = 0; one < 5; one++) {
+                for (int other = 0; other < 5; other++) {
+                    int standing = one == top ? 1 : other == top ? 2 : 0;
+                    due("top " + top + ", " + one + " " + other, x.order(0, one, other), one == other ? -1 : standing);
+                    due("SURE", x.sure(one, other), one == other ? -1 : standing);
+                }
+            }
+        }
     }
 
     /** Promise 25: "NONE: no such ones, there are no so many." */

@@ -158,6 +158,11 @@ public final class BoundarySayingTest extends CourtCheck {
         due("RIGHT is the other way round", turned.offence(0, 1, 1, row(0, 1, 2)), 3);
         due("of it", turned.offence(0, 1, 1, row(2, 1, 0)), 0);
         due("by one", turned.offence(0, 1, 1, row(2, 0, 1)), 1);
+        CourtTongue each = of(TWO + "above a b;part a 0;part b hearer;");
+        due("to one below", each.offence(0, 1, 1, row(0, 1)), 1);
+        due("to one above", each.offence(1, 0, 0, row(0, 1)), 0);
+        each.strike(0);
+        due("to one who was below", each.offence(0, 1, 1, row(0, 1)), 0);
     }
 
     /** Terms 2: "AMENDS: the fewest PARTS that must be put elsewhere so that it is RIGHT." */
@@ -172,6 +177,11 @@ public final class BoundarySayingTest extends CourtCheck {
         due("RIGHT is the other way round", turned.amends(0, 1, 1, row(0, 1, 2)), 2);
         due("by one", turned.amends(0, 1, 1, row(2, 0, 1)), 1);
         due("of no PART", of(TWO).amends(0, 1, 1, 0), 0);
+        CourtTongue each = of(TWO + "above a b;part a 0;part b hearer;");
+        due("to one below", each.amends(0, 1, 1, row(0, 1)), 1);
+        due("to one above", each.amends(1, 0, 0, row(0, 1)), 0);
+        each.strike(0);
+        due("to one who was below", each.amends(0, 1, 1, row(0, 1)), 0);
     }
 
     // ---- a HALL ----
@@ -186,6 +196,13 @@ public final class BoundarySayingTest extends CourtCheck {
         due("the theme alone", x.hall(2, 1, 0, 1), row(0, 1));
         due("without the theme", x.hall(2, 24, 0, 1), row(1, 0));
         due("the theme among them", x.hall(2, 27, 0, 1), row(1, 0));
+        CourtTongue order = of(THREE + "above a b in 1;above c b in 2;part p 0;part q 0-hearer;season 1;");
+        due("as THE ORDER is now", order.hall(1, 5, 0, 2), 0);
+        due("a alone is above", order.hall(1, 1, 0, 1), row(1, 0));
+        due("c is not", order.hall(1, 4, 0, 1), row(0, 1));
+        order.season(2);
+        due("a is not", order.hall(1, 1, 0, 1), row(0, 1));
+        due("c alone is above", order.hall(1, 4, 0, 1), row(1, 0));
         due("all others of the theme", x.hall(2, 27, 0, 2), 0);
     }
 
@@ -205,6 +222,14 @@ public final class BoundarySayingTest extends CourtCheck {
         due("the second word", y.hall(0, 6, 1, 1), row(0, 1, 2));
         due("two against one", y.hall(0, 14, 1, 1), row(0, 2, 1));
         due("what it costs", y.hall(0, 14, 1, 0), 1);
+        // To b p q r, to c r p q: of both the first of those between.
+        CourtTongue between = of(ages + "part p 1;part q 2;part r 3-3*elder;");
+        due("to b", between.say(0, 1, 1), row(0, 1, 2));
+        due("to c", between.say(0, 2, 2), row(2, 0, 1));
+        due("two of one, one of the other", between.hall(0, 14, 1, 1), row(2, 0, 1));
+        due("what it costs", between.hall(0, 14, 1, 0), 2);
+        // r q p comes later and is less than p q r, but not the least.
+        due("to one alone", of(TWO + "part p 3;part q 1;part r 2;").hall(0, 2, 1, 1), row(1, 2, 0));
         // b wants p q r s t, c and d the other way round.
         String turned = "part p elder*5;part q elder*4;part r elder*3;part s elder*2;part t elder;";
         CourtTongue z = of(ages + turned);
@@ -332,9 +357,12 @@ public final class BoundarySayingTest extends CourtCheck {
             due("the theme " + person, x.hall(0, 2, person, 0), -1);
         }
         due("the speaker as theme", x.hall(0, 2, 0, 0), -1);
+        CourtTongue clash = of("person a 5;person b 9;person c 1;part p 1;part q 2*elder;");
+        due("a CLASH", clash.hall(0, 6, 1, 3), 2);
         int[] strangeWhats = {-1, 4, HIGH, LOW};
         for (int what : strangeWhats) {
             due("what " + what, x.hall(0, 2, 1, what), -1);
+            due("what " + what + " of a CLASH", clash.hall(0, 6, 1, what), -1);
         }
         due("the third of two", of(TWO).hall(0, 4, 1, 0), -1);
         due("of a new object", new CourtTongue().hall(0, 2, 1, 0), -1);

@@ -632,7 +632,11 @@ public final class BoundaryTextTest extends CourtCheck {
         sound("part p (1)" + many("+(1)", 8) + ";", 1);
         sound("part p " + many("(", 7) + "(1)+(1)" + many(")", 7) + ";", 1);
         faultBehind("part p " + many("(", 7) + "(1)+(", "(1;", 2);
-        // Those of another E are closed.
+        // Those of another E are closed, and those of a TEXT with a FAULT.
+        CourtTongue x = new CourtTongue();
+        due("a FAULT with eight open", read(x, "part p not " + many("(", 8)), -1);
+        due("eight again", read(x, "part p " + many("(", 8) + "2" + many(")", 8) + ";" + TWO), 3);
+        due("and nothing else", x.place(0, 0, 1, 1), 2);
         sound(("part p " + many("(", 8) + "1" + many(")", 8) + ";") + "rise " + many("(", 8) + "1" + many(")", 8) + ";", 2);
     }
 
@@ -655,6 +659,19 @@ public final class BoundaryTextTest extends CourtCheck {
         faultBehind("part p " + SUM_OF_63 + ";rise 1;part q ", "1;", 2);
         faultBehind("part p " + SUM_OF_63 + ";rise 1", "+1;", 2);
         due("64 knots as a value", worth("not (" + SUM_OF_63 + ")"), 0);
+        due("63 that wait in eight brackets", worth(many("(", 8) + many("not ", 63) + "1" + many(")", 8)), 0);
+        // Each TEXT is counted for itself, whether the one ahead was sound or not.
+        CourtTongue x = new CourtTongue();
+        for (int i = 0; i < 3; i++) {
+            due("64 again", read(x, TWO + "part p 2+" + SUM_OF_63.substring(2) + ";rise 1;"), 4);
+            due("as many", x.count(3), 64);
+            due("the value", x.place(0, 0, 1, 1), 33);
+            due("one more", read(x, "part p not " + SUM_OF_63 + ";rise 1;"), -1);
+            due("as many still", x.count(3), 64);
+            due("a sign that waits in vain", read(x, "part p not"), -1);
+            due("one KNOT", read(x, TWO + "part p 2;"), 3);
+            due("and no other", x.place(0, 0, 1, 1), 2);
+        }
     }
 
     /** Terms 1: "3 told already: a name of its kind (at W), season, rise (at the word)" */
@@ -667,6 +684,14 @@ public final class BoundaryTextTest extends CourtCheck {
         faultBehind("season 0;", "season", 3);
         faultBehind("season 3;", "season 3;", 3);
         faultBehind("rise 0;", "rise", 3);
+        // What another TEXT told, sound or not, isn't told already.
+        CourtTongue x = new CourtTongue();
+        for (int i = 0; i < 2; i++) {
+            due("sound, and once more", read(x, "season 1;rise 1;person a 1;part a 1;"), 4);
+            due("with a FAULT", read(x, "season 1;rise 1;person a 1;part a 1;!"), -1);
+        }
+        due("a TEXT without rise", read(x, people(2) + "above a b;"), 3);
+        due("is read as one", x.rise(1, 0, -1), 1);
     }
 
     /** Terms 1: "one and the same FACT (at the second W, its season being read; with another season or none it is another one; level: either way round)" */
