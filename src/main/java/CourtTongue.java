@@ -77,9 +77,8 @@ public final class CourtTongue {
     private static final int CLOSE = 10031;
     private static final int LINE_END = 10032;
 
-    private final int[] tape = new int[MOST_BYTES];
+    private final Reader reader = new Reader();
     private int tapeLength;
-    private final Reader reader = new Reader(tape);
     private final Book book = new Book();
     private final Facts facts = new Facts();
     private int seasonNow;
@@ -90,7 +89,7 @@ public final class CourtTongue {
     private final Saying saying = new Saying();
     private final Memory memory = new Memory();
     private final Orders orders = new Orders();
-    private final Climb climb = new Climb(book);
+    private final Climb climb = new Climb();
 
     public CourtTongue() {
     }
@@ -413,7 +412,7 @@ public final class CourtTongue {
             scale.build(facts, season, book.people);
             climb.learn(season, scale);
         }
-        int steps = climb.search(clerk, past, seasonNow);
+        int steps = climb.search(book, clerk, past, seasonNow);
         if (steps == NONE || k >= steps) {
             return NO_MORE;
         }
@@ -463,7 +462,7 @@ public final class CourtTongue {
 
     private void layBytes(int number) {
         for (int shift = 24; shift >= 0; shift -= 8) {
-            put(tape, tapeLength, number >>> shift & 255);
+            put(reader.tape, tapeLength, number >>> shift & 255);
             tapeLength++;
         }
     }
@@ -1363,12 +1362,7 @@ public final class CourtTongue {
         private final int[] names = new int[NAMES];
         private int size;
         private int goal;
-        private final Book book;
         private int clerk;
-
-        Climb(Book people) {
-            book = people;
-        }
 
         void learn(int season, Order scale) {
             for (int person = 0; person < ROOM; person++) {
@@ -1377,7 +1371,7 @@ public final class CourtTongue {
         }
 
         /** The fewest STEPS; NONE: there is no way. */
-        int search(int climber, int past, int season) {
+        int search(Book book, int climber, int past, int season) {
             clerk = climber;
             size = 0;
             goal = NONE;
@@ -1389,7 +1383,7 @@ public final class CourtTongue {
                 if (isAbove(at(states, head), clerk, past)) {
                     goal = head;
                 } else {
-                    spread(head);
+                    spread(book, head);
                 }
             }
             return goal == NONE ? NONE : countSteps();
@@ -1403,10 +1397,10 @@ public final class CourtTongue {
             return state;
         }
 
-        private void spread(int head) {
+        private void spread(Book book, int head) {
             int state = at(states, head);
             for (int hearer = 0; hearer < book.people; hearer++) {
-                if (hearer != clerk && mayChange(state, hearer)) {
+                if (hearer != clerk && mayChange(book, state, hearer)) {
                     add(changed(state, hearer), head, hearer);
                 }
             }
@@ -1459,7 +1453,7 @@ public final class CourtTongue {
             return (lower >> placeOf(state, other) & 1) == 1;
         }
 
-        private boolean mayChange(int state, int hearer) {
+        private boolean mayChange(Book book, int state, int hearer) {
             boolean hearerAbove = isAbove(state, hearer, clerk);
             if (!book.riseTold) {
                 return hearerAbove;
@@ -1473,14 +1467,14 @@ public final class CourtTongue {
             put(names, OLD, 0);
             put(names, TIME, seasonOf(state));
             put(names, SELF, 1);
-            put(names, GAP, gapTo(state, hearer));
+            put(names, GAP, gapTo(state, hearer, book.people));
             long worth = book.formulas.work(Formulas.RISE_FORMULA, names);
             return worth == NO_VALUE ? hearerAbove : worth != 0;
         }
 
-        private int gapTo(int state, int hearer) {
+        private int gapTo(int state, int hearer, int people) {
             int count = 0;
-            for (int person = 0; person < book.people; person++) {
+            for (int person = 0; person < people; person++) {
                 if (isAbove(state, person, clerk) && !isAbove(state, person, hearer)) {
                     count++;
                 }
@@ -1518,6 +1512,7 @@ public final class CourtTongue {
         private static final int HUGE = 100000;
         private static final int COMPARISON = 4;
 
+        final int[] tape = new int[MOST_BYTES];
         final Book draft = new Book();
         final Facts draftFacts = new Facts();
         int lines;
@@ -1530,7 +1525,6 @@ public final class CourtTongue {
         private int waitingSize;
         private int open;
         private boolean operandDue;
-        private final int[] tape;
         private int length;
         private int cursor;
         private int place;
@@ -1538,8 +1532,7 @@ public final class CourtTongue {
         private int value;
         private int knot;
 
-        Reader(int[] bytes) {
-            tape = bytes;
+        Reader() {
             for (int word = 0; word < WORDS; word++) {
                 put(language, word, lettersOf(word));
             }

@@ -84,6 +84,8 @@ public final class BoundarySayingTest extends CourtCheck {
         }
         int rows = 0;
         for (int number = 0; number < 1 << 15; number++) {
+            // No object answers more than 512 calls.
+            x = number % 500 == 0 ? ofFive() : x;
             rows += x.offence(0, 1, 2, number) >= 0 ? 1 : 0;
         }
         due("rows of five", rows, 120);

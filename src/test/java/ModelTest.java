@@ -15,6 +15,8 @@ import java.util.TreeSet;
 public final class ModelTest {
     private static final int RUNS = 500;
     private static final int CALLS = 250;
+    // An object is used for at most 512 calls, those that bring its TEXT among them.
+    private static final int FRESH = 400;
     private static final int SHOWN = 20;
     private static int wrong = 0;
     private static int calls = 0;
@@ -1299,7 +1301,8 @@ public final class ModelTest {
     private static void allRowsOfFive() {
         CourtTongue x = new CourtTongue();
         Model model = new Model();
-        feedTo(x, model, "person a 1;person b 2;part a 3;part b 5;part c 1;part d 4;part e 2;");
+        String text = "person a 1;person b 2;part a 3;part b 5;part c 1;part d 4;part e 2;";
+        feedTo(x, model, text);
         List<Integer> right = model.rightNow(0, 1, 1);
         for (List<Integer> row : model.allRows()) {
             due(-1, "offence " + row, x.offence(0, 1, 1, model.pack(row)), model.offence(right, row));
@@ -1307,6 +1310,10 @@ public final class ModelTest {
         }
         int whole = 0;
         for (int row = 0; row < 1 << 15; row++) {
+            if (row % FRESH == 0) {
+                x = new CourtTongue();
+                feedTo(x, model, text);
+            }
             whole += x.offence(0, 1, 1, row) >= 0 ? 1 : 0;
         }
         due(-1, "rows of five words", whole, 120);
@@ -1315,9 +1322,14 @@ public final class ModelTest {
     private static void allOrdersOfFive() {
         CourtTongue x = new CourtTongue();
         Model model = new Model();
-        feedTo(x, model, "person a 1;person b 2;person c 3;person d 4;person e 5;");
+        String text = "person a 1;person b 2;person c 3;person d 4;person e 5;";
+        feedTo(x, model, text);
         int count = model.possible(List.of()).size();
         for (int k = 0; k < count; k++) {
+            if (k * 25 % FRESH == 0) {
+                x = new CourtTongue();
+                feedTo(x, model, text);
+            }
             for (int pair = 0; pair < 25; pair++) {
                 int want = model.order(k, pair / 5, pair % 5);
                 due(-1, "order " + k + " " + pair / 5 + " " + pair % 5, x.order(k, pair / 5, pair % 5), want);
