@@ -87,7 +87,17 @@ public final class BoundaryClerkTest extends CourtCheck {
 
     // ---- promise 28 ----
 
-    /** Terms 3: "in a STEP the clerk says something RIGHT to a hearer about this hearer, if rise's E isn't 0 (without one, an ERROR: if the hearer is above) of NAMES as then" */
+    /** Terms 1: "rise: when the clerk comes past one." */
+    private static void whenTheClerkComesPast() {
+        String three = people(3) + "above a b;above b c;";
+        steps("without one, past whoever is above", of(three), 2, 1, 0);
+        steps("past one above alone who is next", of(three + "rise hearer=1 and gap=1;"), 2, 0, 1, 0);
+        due("past nobody", of(three + "rise 0;").rise(2, 0, -1), -2);
+        due("past those below alone", of(three + "rise hearer<0;").rise(2, 0, -1), -2);
+        due("the E of a PART tells nothing of it", of(three + "part p 0;").rise(2, 0, -1), 1);
+    }
+
+    /** Terms 3: "RISE of a clerk from now on past another one: in a STEP the clerk says something RIGHT to a hearer about this hearer, if rise's E isn't 0 (without one, an ERROR: if the hearer is above) of NAMES as then" */
     private static void whenThereIsAStep() {
         steps("without one", of(CHAIN), 4, 3, 0);
         steps("an ERROR", of(CHAIN + "rise 1/0;"), 4, 3, 0);

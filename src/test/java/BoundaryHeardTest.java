@@ -414,7 +414,7 @@ public final class BoundaryHeardTest extends CourtCheck {
         due("the season now is no matter", seasons.season(2) ? seasons.letter(AHEAD, 1, 0) : 9, triple(0, 1, 1));
     }
 
-    /** Promise 26: "how many TRIPLES (k -1), the k-th: the speaker and 8 times the hearer, and 64 times the theme; -2: there are no so many" */
+    /** Promise 26: "A LETTER: how many TRIPLES (k -1), the k-th: the speaker and 8 times the hearer, and 64 times the theme; -2: there are no so many" */
     private static void noSoManyTriples() {
         CourtTongue x = of(people(5));
         due("the first", x.letter(0, 3, 0), triple(0, 1, 1));

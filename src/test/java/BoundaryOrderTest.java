@@ -16,7 +16,7 @@ public final class BoundaryOrderTest extends CourtCheck {
 
     // ---- THE ORDER ----
 
-    /** Terms 2: "FACTS without a season and of this one, and what follows" */
+    /** Terms 2: "THE ORDER of a season: FACTS without a season and of this one, and what follows" */
     private static void factsOfOneSeason() {
         CourtTongue x = of(people(3) + "above a b in 1;above b c in 2;");
         due("its own", x.stands(0, 1, 1), 1);

@@ -275,7 +275,7 @@ public final class BoundarySayingTest extends CourtCheck {
         due("of a new object", new CourtTongue().say(0, 0, 0), -1);
     }
 
-    /** Promise 14: "Long.MIN_VALUE: an ERROR, no such ones." */
+    /** Promise 14: "E of a PART in it. Long.MIN_VALUE: an ERROR, no such ones." */
     private static void placeOfNoSuchOnes() {
         CourtTongue x = ofFive();
         due("the first PART", x.place(0, 0, 1, 2), 1);
@@ -372,7 +372,7 @@ public final class BoundarySayingTest extends CourtCheck {
 
     // ---- promise 18 ----
 
-    /** Terms 3: "of all ways in which hearer, theme, both can be 1, 0, -1 such that they can be in an ORDER (of a theme that is the hearer: theme is as hearer, both 0) those by which it is RIGHT" */
+    /** Terms 3: "CLAIMS of a ROW: of all ways in which hearer, theme, both can be 1, 0, -1 such that they can be in an ORDER (of a theme that is the hearer: theme is as hearer, both 0) those by which it is RIGHT" */
     private static void allWays() {
         CourtTongue x = of(THREE);
         due("of another one", x.claims(0, 1, 2, 0), ALL_WAYS);

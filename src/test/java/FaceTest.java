@@ -9,19 +9,13 @@ import java.util.Arrays;
 import java.util.NoSuchElementException;
 import java.util.Set;
 import java.util.TreeSet;
+import java.util.regex.Matcher;
+import java.util.regex.Pattern;
 
 /** The document's face and no other; the rules of LANGUAGE.md that can be seen from outside; arguments of every size. */
 public final class FaceTest {
-    private static final Set<String> FACE = new TreeSet<>(Set.of(
-        "int feed(int,int,int,int,int)", "int text(int)", "int fault(int)", "int named(int,int)", "int look(int,int)",
-        "int stands(int,int,int)", "boolean season(int)", "int raise(int,int,int)"));
-    private static final Set<String> REST = Set.of(
-        "boolean strike(int)", "int fact(int,int)", "int ring(int,int,int)", "int say(int,int,int)",
-        "long place(int,int,int,int)", "int offence(int,int,int,int)", "int amends(int,int,int,int)",
-        "int hall(int,int,int,int)", "int claims(int,int,int,int)", "int hear(int,int,int,int,int)",
-        "int unhear(int)", "boolean known(int)", "int possible()", "int sure(int,int)", "int cannot()",
-        "int order(int,int,int)", "int letter(int,int,int)", "int silence(int,int,int,int)", "int rise(int,int,int)",
-        "int keep()", "int back()", "int count(int)");
+    private static final Path DOCUMENT = Path.of("../shared/DOC.md");
+    private static final Pattern TOLD = Pattern.compile("(?m)^    public (int|long|boolean) (\\w+)\\((.*?)\\)( throws .*)?;$");
     private static final int[] SIZES = {Integer.MIN_VALUE, Integer.MIN_VALUE + 1, -1000000, -65, -33, -32, -2, -1, 0, 1, 2,
         3, 4, 5, 6, 7, 8, 24, 31, 32, 33, 63, 64, 129, 1 << 15, 1 << 30, Integer.MAX_VALUE - 1, Integer.MAX_VALUE};
 
@@ -46,13 +40,33 @@ public final class FaceTest {
         StringBuilder text = new StringBuilder(method.getReturnType() + " " + method.getName() + "(");
         Class<?>[] types = method.getParameterTypes();
         for (int i = 0; i < types.length; i++) {
-            text.append(i == 0 ? "" : ",").append(types[i]);
+            text.append(i == 0 ? "" : ", ").append(types[i]);
         }
-        return text.append(")").toString();
+        text.append(")");
+        Class<?>[] thrown = method.getExceptionTypes();
+        for (int i = 0; i < thrown.length; i++) {
+            text.append(i == 0 ? " throws " : ", ").append(thrown[i].getSimpleName());
+        }
+        return text.toString();
     }
 
-    private static void face() {
-        FACE.addAll(REST);
+    /** The methods as the document tells them, without the names of what they take. */
+    private static Set<String> faceOfTheDocument() throws IOException {
+        String text = Files.readString(DOCUMENT);
+        Set<String> face = new TreeSet<>();
+        Matcher method = TOLD.matcher(text);
+        while (method.find()) {
+            String types = method.group(3).replaceAll(" \\w+(?=,|$)", "");
+            String thrown = method.group(4) == null ? "" : method.group(4);
+            face.add(method.group(1) + " " + method.group(2) + "(" + types + ")" + thrown);
+        }
+        check("the document tells NONE", text.contains("public static final int NONE = " + CourtTongue.NONE + ";"));
+        return face;
+    }
+
+    private static void face() throws IOException {
+        Set<String> due = faceOfTheDocument();
+        check("30 methods in the document: " + due, due.size() == 30);
         Set<String> found = new TreeSet<>();
         Set<String> names = new TreeSet<>();
         for (Method method : CourtTongue.class.getDeclaredMethods()) {
@@ -61,7 +75,7 @@ public final class FaceTest {
                 names.add(method.getName());
             }
         }
-        check("the methods are the document's: " + found, found.equals(FACE));
+        check("the methods are the document's: " + found, found.equals(due));
         check("the class is public and final", CourtTongue.class.getModifiers() == (Modifier.PUBLIC | Modifier.FINAL));
         Constructor<?>[] constructors = CourtTongue.class.getDeclaredConstructors();
         check("one public constructor without arguments", constructors.length == 1

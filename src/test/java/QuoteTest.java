@@ -10,8 +10,8 @@ import java.util.regex.Matcher;
 import java.util.regex.Pattern;
 
 /**
- * Of the tests of boundary cases: each quotes the document to the letter, from the part that it names, and what names a
- * boundary there (a number, NONE, false, an exception and the like) stands in some quote.
+ * Of the tests of boundary cases: each quotes the document to the letter, from the part that it names, and every word of
+ * the promises and terms stands in some quote.
  */
 public final class QuoteTest extends CourtCheck {
     private static final Path DOCUMENT = Path.of("../shared/DOC.md");
@@ -19,9 +19,6 @@ public final class QuoteTest extends CourtCheck {
     private static final Pattern HEADING = Pattern.compile("(?m)^(?:## (What it is|Promise \\d+):?.*|==== (\\d)\\. .*)$");
     private static final Pattern TEST = Pattern.compile("(?s)(?:/\\*\\* ([A-Z][a-z ]+[a-z0-9 ]*): \"([^\\n]*)\" \\*/\\s*)?"
         + "private static void (\\w+)\\(\\)");
-    private static final Pattern BOUNDARY = Pattern.compile("NONE|-2|true|false|Exception|MIN_VALUE|ERROR|at most|first"
-        + "|least|fewest|shortest|same|no such|\\d+");
-
     private record Quote(String part, String words, String where) {
     }
 
@@ -69,25 +66,21 @@ public final class QuoteTest extends CourtCheck {
         }
     }
 
-    private static void boundariesAreQuoted(Map<String, String> parts, List<Quote> quotes) {
+    private static void everyWordIsQuoted(Map<String, String> parts, List<Quote> quotes) {
         for (Map.Entry<String, String> part : parts.entrySet()) {
             if (part.getKey().startsWith("What")) {
                 // It tells what is promised further on.
                 continue;
             }
-            boolean[] quoted = new boolean[part.getValue().length()];
+            StringBuilder rest = new StringBuilder(part.getValue());
             for (Quote quote : quotes) {
                 int from = quote.part.equals(part.getKey()) ? part.getValue().indexOf(quote.words) : -1;
                 for (int i = from; i >= 0 && i < from + quote.words.length(); i++) {
-                    quoted[i] = true;
+                    rest.setCharAt(i, '.');
                 }
             }
-            Matcher boundary = BOUNDARY.matcher(part.getValue());
-            while (boundary.find()) {
-                String around = part.getValue().substring(Math.max(0, boundary.start() - 40),
-                    Math.min(part.getValue().length(), boundary.end() + 20));
-                yes(part.getKey() + ": quoted is \"" + around + "\"", quoted[boundary.start()]);
-            }
+            String left = rest.toString().replaceAll("[.,:; ]+", " ").strip();
+            yes(part.getKey() + ": quoted is \"" + left + "\"", left.isEmpty());
         }
     }
 
@@ -97,7 +90,7 @@ public final class QuoteTest extends CourtCheck {
         List<Quote> quotes = quotes();
         due("promises, terms and what it is", parts.size(), 31 + 3 + 1);
         quotesAreTrue(parts, quotes);
-        boundariesAreQuoted(parts, quotes);
+        everyWordIsQuoted(parts, quotes);
         finish(QuoteTest.class);
     }
 }
